@@ -15,7 +15,7 @@ public final class ThreeBalls {
     private static final int TRY_FIELDS = 5;
     private static final int TRY_STALL = 0, TRY_HAND = 1, TRY_AIM = 2, TRY_WON = 3, TRY_SET = 4;
     private static final int LOT_FACTOR = 48271, LOT_MODULUS = 2147483647;
-    private static final int PLAYER_TRIES = 40, LET_TRIES = 6, LET_SETS = 64;
+    private static final int PLAYER_TRIES = 40, LET_TRIES = 6, LET_SETS = 1 << LET_TRIES;
     private static final int HAD = 0, WON = 1, COIN = 2, LOST = 3;
     private static final int PLAY = 0, SKILL = 1, LEAVE = 2;
     private static final int SURE_FAIL = 1000000, WALK_COIN = 200;
@@ -45,7 +45,9 @@ public final class ThreeBalls {
     private final Grid grid = new Grid();
     private final int[] values = new int[Text.NAMES];
     private final int[] outcome = new int[4];
-    private final int[] lacks = new int[STALLS];
+    private final long[] askedWhether = new long[PLAYER_TRIES];
+    private final long[] goingOn = new long[PLAYER_TRIES];
+    private final int[] ofStalls = new int[STALLS];
     private final int[] fails = new int[WALK_COIN + 1];
 
     public ThreeBalls() {
@@ -345,8 +347,8 @@ public final class ThreeBalls {
         if (s == null || h == null || asked >= outcome.length) {
             return NO;
         }
-        tellValues(s, thousandths(s, h, aim));
-        playOut(s, h, aim, seed, coin, what / 10);
+        askPlayer(s, h, aim);
+        playOut(s, coin, winningThrows(s, h, aim, seed) | what / 10);
         return outcome[asked];
     }
 
@@ -359,12 +361,13 @@ public final class ThreeBalls {
         if (s == null || h == null) {
             return BAD;
         }
-        tellValues(s, thousandths(s, h, aim));
+        askPlayer(s, h, aim);
+        long winning = winningThrows(s, h, aim, seed);
         int mostHad = -1;
         int found = 0;
         for (int let = 0; let < LET_SETS; let++) {
             if (Integer.bitCount(let) <= many) {
-                playOut(s, h, aim, seed, coin, let);
+                playOut(s, coin, winning | let);
                 if (outcome[HAD] > mostHad) {
                     mostHad = outcome[HAD];
                     found = let;
@@ -379,25 +382,52 @@ public final class ThreeBalls {
             && isPlace(aim) && isSeed(seed) && isIn(coin, 0, 9999);
     }
 
-    /** Asks for the values of the stall to be told; writes the outcome. */
-    private void playOut(Stall s, Hand h, int aim, int seed, int coin, int let) {
+    /** What was asked of the rule for another player is forgotten. */
+    private void askPlayer(Stall s, Hand h, int aim) {
+        tellValues(s, thousandths(s, h, aim));
+        Arrays.fill(askedWhether, 0);
+        Arrays.fill(goingOn, 0);
+    }
+
+    /** Which of a player's throws win, as bits: they come by lots, whoever is let win. */
+    private static long winningThrows(Stall s, Hand h, int aim, int seed) {
+        long winning = 0;
+        long lot = firstLot(seed);
+        for (int t = 0; t < PLAYER_TRIES; t++) {
+            if (lands(s, h, aim, lot)) {
+                winning |= 1L << t;
+            }
+            lot = nextLot(lot);
+        }
+        return winning;
+    }
+
+    private void playOut(Stall s, int coin, long winning) {
         int had = 0;
         int won = 0;
         int left = coin;
-        long lot = firstLot(seed);
-        while (had < PLAYER_TRIES && left >= s.price && ruleSays(PLAY, won, had) != 0) {
-            boolean isLet = had < LET_TRIES && (let >> had & 1) == 1;
-            if (isLet || lands(s, h, aim, lot)) {
-                won++;
-            }
+        while (had < PLAYER_TRIES && left >= s.price && goesOn(won, had)) {
+            won += (winning >> had & 1) == 1 ? 1 : 0;
             left -= s.price;
-            lot = nextLot(lot);
             had++;
         }
         outcome[HAD] = had;
         outcome[WON] = won;
         outcome[COIN] = left;
         outcome[LOST] = had * s.price - won * s.bear;
+    }
+
+    /** Sets of tries that are let come to the same few counts, so each is asked for once. */
+    private boolean goesOn(int won, int had) {
+        if (!isIn(had, 0, PLAYER_TRIES - 1)) {
+            return false;
+        }
+        long bit = 1L << won;
+        if ((askedWhether[had] & bit) == 0) {
+            askedWhether[had] |= bit;
+            goingOn[had] |= ruleSays(PLAY, won, had) != 0 ? bit : 0;
+        }
+        return (goingOn[had] & bit) != 0;
     }
 
     private int thousandths(Stall s, Hand h, int aim) {
@@ -467,10 +497,14 @@ public final class ThreeBalls {
         if (!isIn(hours, 0, 199) || !isIn(what, 0, 2)) {
             return BAD;
         }
+        for (int i = 0; i < stalls.size() && i < ofStalls.length; i++) {
+            ofStalls[i] = lookHours(stalls.get(i));
+        }
+        int all = allStalls();
         int bestSet = 0;
         int mostFound = 0;
         int fewest = 0;
-        for (int set = 1; set <= allStalls(); set++) {
+        for (int set = 1; set <= all; set++) {
             int taken = hoursOfLooks(set);
             int found = gaffsOf(set);
             boolean isBetter = found > mostFound || found == mostFound && taken < fewest;
@@ -511,8 +545,8 @@ public final class ThreeBalls {
         if (h == null || !isIn(coin, 0, WALK_COIN) || !isBit(what)) {
             return BAD;
         }
-        for (int i = 0; i < stalls.size() && i < lacks.length; i++) {
-            lacks[i] = h.ways - mostWinning(stalls.get(i), h);
+        for (int i = 0; i < stalls.size() && i < ofStalls.length; i++) {
+            ofStalls[i] = h.ways - mostWinning(stalls.get(i), h);
         }
         int least = leastFail(h, SURE_FAIL, coin);
         if (what == 0) {
@@ -613,10 +647,11 @@ public final class ThreeBalls {
         return false;
     }
 
+    /** Asks for the hours of all stalls to be told. */
     private int hoursOfLooks(int set) {
         int hours = 0;
-        for (int i = 0; i < stalls.size(); i++) {
-            hours += isOf(set, i) ? lookHours(stalls.get(i)) : 0;
+        for (int i = 0; i < stalls.size() && i < ofStalls.length; i++) {
+            hours += isOf(set, i) ? ofStalls[i] : 0;
         }
         return hours;
     }
@@ -631,7 +666,7 @@ public final class ThreeBalls {
 
     /**
      * A lesser fail never becomes a greater one by the same try, so the least fail of each
-     * lesser coin is all that has to be known. Asks for what lacks to be told.
+     * lesser coin is all that has to be known. Asks for what lacks at all stalls to be told.
      */
     private int leastFail(Hand h, int first, int coin) {
         if (!isIn(coin, 0, fails.length - 1)) {
@@ -652,8 +687,8 @@ public final class ThreeBalls {
     }
 
     private int failAfter(Hand h, int fail, int stall) {
-        return isIn(stall, 0, lacks.length - 1)
-            ? (int) quotient((long) fail * lacks[stall], h.ways) : fail;
+        return isIn(stall, 0, ofStalls.length - 1)
+            ? (int) quotient((long) fail * ofStalls[stall], h.ways) : fail;
     }
 
     private int firstOfWalk(Hand h, int coin, int least) {
@@ -1096,7 +1131,11 @@ public final class ThreeBalls {
             if (token == NEGATIVE || token == NOT) {
                 return alter(token, top);
             }
-            return join(token, top);
+            if (top < 2 || top > stack.length) {
+                return top;
+            }
+            stack[top - 2] = joined(token, stack[top - 2], stack[top - 1]);
+            return top - 1;
         }
 
         private int push(int v, int top) {
@@ -1112,16 +1151,8 @@ public final class ThreeBalls {
                 return top;
             }
             int last = stack[top - 1];
-            stack[top - 1] = token == NEGATIVE ? -last : asBit(last == 0);
+            stack[top - 1] = token == NEGATIVE ? -last : last == 0 ? 1 : 0;
             return top;
-        }
-
-        private int join(int token, int top) {
-            if (top < 2 || top > stack.length) {
-                return top;
-            }
-            stack[top - 2] = joined(token, stack[top - 2], stack[top - 1]);
-            return top - 1;
         }
 
         private static int joined(int token, int v, int w) {
