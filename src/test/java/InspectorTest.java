@@ -110,10 +110,27 @@ public final class InspectorTest {
         due("23: five hours, like finds and hours", x.year(5, 0), 0b00110);
         due("23: five hours, taken", x.year(5, 2), 5);
         due("23: none", x.year(0, 0), 0);
+        yearOfAFullGreen();
         int[][] wrong = {{-1, 0}, {200, 0}, {0, -1}, {0, 3}, {MIN, 0}, {MAX, MAX}};
         for (int[] w : wrong) {
             due("23: wrong", x.year(w[0], w[1]), ThreeBalls.BAD);
         }
+    }
+
+    private static void yearOfAFullGreen() {
+        ThreeBalls x = new ThreeBalls();
+        for (int i = 0; i < 8; i++) {
+            x.stall(1, 0, 1, i + 1);
+        }
+        due("23: all eight", x.year(16, 0), 255);
+        due("23: all eight, hours", x.year(16, 2), 16);
+        due("23: one too many", x.year(15, 0), 127);
+        Checks.read(x, "play 1; skill 1; leave price*price;");
+        x.force(1);
+        due("23: the first alone", x.year(4, 0), 1);
+        due("23: the first alone, hours", x.year(4, 2), 1);
+        due("23: all but the last", x.year(199, 0), 127);
+        due("23: all but the last, hours", x.year(199, 2), 140);
     }
 
     private static void promise24() {
@@ -129,6 +146,14 @@ public final class InspectorTest {
         due("24: fractions are not cut", x.make(0, 0, 10, 0, 0), 110);
         due("24: as much left as asked", x.make(0, 0, 10, 0, 89), 199);
         due("24: fractions are not cut, 92 less 10 of 9", x.make(0, 0, 10, 0, 90), 92);
+        x.hand(0, 0, 4);
+        due("24: as great as can be", x.make(1, 2, 10, 1000, 0), 810);
+        x.hand(0, 0, 5);
+        // Heavy of size 8, 9: 81 of 121, 669 and no more.
+        due("24: not great enough", x.make(1, 3, 10, 670, 0), ThreeBalls.NONE);
+        // Tight of size 9: 10 columns of 11, 909 and no more.
+        due("24: the greatest", x.make(2, 3, 10, 909, 0), 910);
+        due("24: greater than the greatest", x.make(2, 3, 10, 910, 0), ThreeBalls.NONE);
         due("24: heavy", x.make(1, 1, 10, 1000, 0), 10);
         due("24: sprung", x.make(3, 1, 10, 1000, 0), 110);
         due("24: not set, gaffed is as plain", x.make(5, 0, 10, 1000, 0), 110);
@@ -138,7 +163,7 @@ public final class InspectorTest {
         due("24: too much asked", x.make(2, 0, 100, 1000, 0), ThreeBalls.NONE);
         due("24: no stall came", x.count(0), 0);
         int[][] wrong = {
-            {-1, 0, 0, 0, 0}, {6, 0, 0, 0, 0}, {0, -1, 0, 0, 0}, {0, 2, 0, 0, 0}, {0, 0, -1, 0, 0}, {0, 0, 1000, 0, 0},
+            {-1, 0, 0, 0, 0}, {6, 0, 0, 0, 0}, {0, -1, 0, 0, 0}, {0, 4, 0, 0, 0}, {0, 0, -1, 0, 0}, {0, 0, 1000, 0, 0},
             {0, 0, 0, -1, 0}, {0, 0, 0, 1001, 0}, {0, 0, 0, 0, -1000}, {0, 0, 0, 0, 100}, {MIN, MAX, MIN, MAX, MIN},
         };
         for (int[] w : wrong) {
@@ -172,6 +197,27 @@ public final class InspectorTest {
             due("25: wrong", x.walk(w[0], w[1], w[2]), ThreeBalls.BAD);
         }
         orderOfAWalk();
+        walkOfAFullGreen();
+    }
+
+    private static void walkOfAFullGreen() {
+        ThreeBalls x = new ThreeBalls();
+        x.hand(0, 0, 1);
+        for (int i = 0; i < 7; i++) {
+            x.stall(3, 1010, 0, 50);
+        }
+        x.stall(0, 1010, 0, 50);
+        due("25: the eighth alone wins", x.walk(0, 50, 0), 888888);
+        due("25: the eighth alone wins", x.walk(0, 50, 1), 7);
+        due("25: four tries by 199 are three", x.walk(0, 199, 0), 888888 * 8 / 9 * 8 / 9);
+        due("25: four tries", x.walk(0, 200, 0), 888888 * 8 / 9 * 8 / 9 * 8 / 9);
+        due("25: four tries", x.walk(0, 200, 1), 7);
+        x.set(7, 0, 1);
+        int fail = 1000000;
+        for (int i = 0; i < 200; i++) {
+            fail = (int) (fail * 8L / 9);
+        }
+        due("25: two hundred tries", x.walk(0, 200, 0), fail);
     }
 
     private static void orderOfAWalk() {
@@ -245,6 +291,24 @@ public final class InspectorTest {
         due("27: the new one", x.told(0, 3), 91);
         due("27: the second stall, too", x.told(1, 3), 50);
         due("27: the rule", x.count(6), 1);
+        for (int i = 2; i < 8; i++) {
+            x.stall(0, 0, 0, i + 1);
+            x.set(i, 1, 100 + i);
+        }
+        x.image();
+        for (int i = 0; i < 8; i++) {
+            x.set(i, 0, 99);
+            x.set(i, 1, 999);
+            x.set(i, 2, 998);
+            x.set(i, 3, 1);
+        }
+        x.back();
+        for (int i = 2; i < 8; i++) {
+            int[] want = {i + 1, 100 + i, 0, 0};
+            for (int what = 0; what < 4; what++) {
+                due("27: stall " + i + " what " + what, x.told(i, 3 + what), want[what]);
+            }
+        }
     }
 
     private static void promise28() {

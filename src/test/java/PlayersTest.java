@@ -193,6 +193,30 @@ public final class PlayersTest {
         fault("play !;", 5);
         fault("play 1 ! 12345 ;", 7);
         fault("play 1 $", 7);
+        fault("play z;", 5);
+        fault("play zodds;", 5);
+        fault("play oddsz;", 5);
+        fault("play pdds;", 5);
+        fault("play ,;", 5);
+        fault("play a;", 5);
+        fault("play /;", 5);
+        fault("play :;", 5);
+        fault("play `;", 5);
+        fault("play {;", 5);
+        fault("play 1>2;", 6);
+        fullTape("+", 71);
+        fullTape("*", 1);
+        fullTape("-", 1 - 70);
+    }
+
+    private static void fullTape(String sign, int comesTo) {
+        String e = ("1" + sign).repeat(70) + "1";
+        fault("play" + e + ";skill1;leave1 ", 160);
+        fault("play" + e + ";skill1;leave1$", 159);
+        ThreeBalls x = green();
+        due("16: all of a full tape", Checks.read(x, "play" + e + ";skill1;leave1;"), 1);
+        x.force(1);
+        due("16: all of a full tape, by " + sign, x.says(0, 0, 0, 0, 0), comesTo);
     }
 
     private static void promise17() {
@@ -241,6 +265,9 @@ public final class PlayersTest {
         due("18: not less", playOf("0<0"), 0);
         due("18: like", playOf("3=won"), 1);
         due("18: unlike", playOf("3=tries"), 0);
+        due("18: a long row of or", playOf("0 or 0 or 0 or 0 or 0 or 1"), 1);
+        due("18: a long row of and", playOf("1 and 1 and 1 and 1 and 0"), 0);
+        due("18: more than its part", playOf("99"), 99);
         due("18: wrapping", playOf("9999*9999*9999"), 9999 * 9999 * 9999);
         due("18: wrapping less", playOf("9999*9999*9999*9999<0"), 9999 * 9999 * 9999 * 9999 < 0 ? 1 : 0);
         ThreeBalls x = green();
@@ -253,6 +280,8 @@ public final class PlayersTest {
         Checks.read(x, "play 100*won+tries;skill 1+100*won+tries;leave 1;");
         x.force(1);
         due("18: had", x.says(0, 0, 0, 0, 9999), 9999);
+        due("18: had", x.says(0, 0, 0, 0, 100), 100);
+        due("18: had", x.says(0, 0, 0, 0, 1), 1);
         due("18: skill knows none", x.says(0, 0, 0, 1, 9999), 1);
         int[][] wrong = {
             {-1, 0, 0, 0, 0}, {1, 0, 0, 0, 0}, {0, -1, 0, 0, 0}, {0, 1, 0, 0, 0}, {0, 0, -1, 0, 0}, {0, 0, 20, 0, 0},
@@ -281,8 +310,10 @@ public final class PlayersTest {
         due("19: let, but no coin for it", x.player(1, 0, 3, 15, 10 * 0b101010 + 1), 1);
         due("19: let bears cost", x.player(1, 0, 3, 100, 630 + 3), 100 - 180);
         due("19: no tries came", x.count(2), 0);
+        due("19: no coin", x.player(1, 1010, 3, 0, 0), 0);
         lotsOfAPlayer();
         stopsByText(x);
+        withOthers();
         int[][] wrong = {
             {-1, 0, 0, 0, 0}, {2, 0, 0, 0, 0}, {10, 0, 0, 0, 0}, {9, 0, 0, 0, 0}, {0, -1, 0, 0, 0}, {0, 20, 0, 0, 0}, {0, 2000, 0, 0, 0},
             {0, 0, -1, 0, 0}, {0, 0, 100000, 0, 0}, {0, 0, 0, -1, 0}, {0, 0, 0, 10000, 0}, {0, 0, 0, 0, -1}, {0, 0, 0, 0, 4},
@@ -306,6 +337,37 @@ public final class PlayersTest {
         }
         due("19: won by lots", x.player(0, 1010, 77, 100, 1), won);
         due("19: lots go on when let", x.player(0, 1010, 77, 100, 10 * 0b100001 + 1), wonIfLet);
+    }
+
+    /** Three stalls that differ by price, four hands of which the third alone wins. */
+    private static void withOthers() {
+        ThreeBalls x = new ThreeBalls();
+        for (int i = 0; i < 3; i++) {
+            x.stall(0, 1505, 0, 10 * i + 10);
+            x.set(i, 2, 999);
+        }
+        for (int i = 0; i < 4; i++) {
+            x.hand(i - 2, 0, 0);
+        }
+        for (int stall = 0; stall < 3; stall++) {
+            for (int hand = 0; hand < 4; hand++) {
+                int with = 10 * stall + hand;
+                int had = 120 / (10 * stall + 10);
+                due("19: with " + with, x.player(with, 1505, 0, 120, 0), had);
+                due("19: with " + with, x.player(with, 1505, 0, 120, 1), hand == 2 ? had : 0);
+            }
+        }
+        Checks.read(x, "play won = 0 and tries < 9; skill 1; leave 1;");
+        Checks.read(x, "play won = tries and tries < 9; skill 1; leave 1;");
+        x.force(1);
+        due("20: stops when the third hand wins", x.player(22, 1505, 0, 999, 0), 1);
+        due("20: another hand goes on", x.player(23, 1505, 0, 999, 0), 9);
+        x.force(2);
+        due("20: the third hand needs none", x.most(22, 1505, 0, 999, 6), 0);
+        due("20: another hand needs all", x.most(23, 1505, 0, 999, 6), 63);
+        due("20: by coin", x.most(23, 1505, 0, 119, 6), 0b11);
+        due("20: by coin", x.most(13, 1505, 0, 119, 6), 0b1111);
+        due("20: by coin", x.most(3, 1505, 0, 69, 6), 0b11111);
     }
 
     private static void stopsByText(ThreeBalls x) {

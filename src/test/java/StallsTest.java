@@ -212,6 +212,7 @@ public final class StallsTest {
         // Set, the one column a = 0 with b from -2 to 2.
         due("7: set, 5 of 25, top", x.odds(1, 0, 0, 0), 1);
         due("7: set, 5 of 25, bottom", x.odds(1, 0, 0, 1), 5);
+        oddsAtTheEdges();
         int[][] wrong = {
             {-1, 0, 0, 0}, {2, 0, 0, 0}, {0, -1, 0, 0}, {0, 2, 0, 0}, {0, 0, -1, 0}, {0, 0, 20, 0}, {0, 0, 2000, 0},
             {0, 0, 0, -1}, {0, 0, 0, 2}, {MAX, MAX, MAX, MAX}, {MIN, MIN, MIN, MIN},
@@ -219,6 +220,26 @@ public final class StallsTest {
         for (int[] w : wrong) {
             due("7: wrong", x.odds(w[0], w[1], w[2], w[3]), ThreeBalls.NO);
         }
+    }
+
+    private static void oddsAtTheEdges() {
+        ThreeBalls x = new ThreeBalls();
+        x.stall(0, 1010, 9, 5);
+        x.hand(0, 0, 0);
+        x.hand(5, 0, 1);
+        for (int aim = 0; aim < 20; aim++) {
+            int within = aim >= 1 && aim <= 19 ? 1 : 0;
+            due("7: size 9, from the left, " + aim, x.odds(0, 0, 100 * aim + 10, 0), within);
+            due("7: size 9, from below, " + aim, x.odds(0, 0, 1000 + aim, 0), within);
+        }
+        due("7: two columns of three, top", x.odds(0, 1, 1310, 0), 1);
+        due("7: two columns of three, top", x.odds(0, 1, 1410, 0), 2);
+        due("7: two columns of three, bottom", x.odds(0, 1, 1410, 1), 3);
+        due("7: one column of three, top", x.odds(0, 1, 1510, 0), 1);
+        due("7: one column of three, bottom", x.odds(0, 1, 1510, 1), 3);
+        due("7: none", x.odds(0, 1, 1610, 0), 0);
+        due("7: two columns, one row", x.odds(0, 1, 1400, 0), 2);
+        due("7: two columns, one row", x.odds(0, 1, 1400, 1), 9);
     }
 
     private static void promise8() {

@@ -20,16 +20,16 @@ public final class TriesTest {
         int[] seeds = {0, 1, 2, 77, 99999};
         for (int seed : seeds) {
             long lot = (seed + 1L) * 48271 % 2147483647;
-            int landsX = 10 + 2 + (int) (lot % 7) - 3;
-            int landsY = 10 - 1 + (int) (lot / 7 % 7) - 3;
+            int landsX = 14 + 2 + (int) (lot % 7) - 3;
+            int landsY = 6 - 1 + (int) (lot / 7 % 7) - 3;
             ThreeBalls x = new ThreeBalls();
             x.hand(2, -1, 3);
             x.stall(0, 100 * landsX + landsY, 0, 1);
             x.stall(0, 100 * (landsX - 1) + landsY, 0, 1);
             x.stall(0, 100 * landsX + landsY + 1, 0, 1);
-            due("9: wins by " + seed, x.tried(0, 0, 1010, seed), 1);
-            due("9: misses in x by " + seed, x.tried(1, 0, 1010, seed), 0);
-            due("9: misses in y by " + seed, x.tried(2, 0, 1010, seed), 0);
+            due("9: wins by " + seed, x.tried(0, 0, 1406, seed), 1);
+            due("9: misses in x by " + seed, x.tried(1, 0, 1406, seed), 0);
+            due("9: misses in y by " + seed, x.tried(2, 0, 1406, seed), 0);
             due("9: three came", x.count(2), 3);
             due("9: one won", x.count(7), 1);
         }
@@ -94,7 +94,13 @@ public final class TriesTest {
                 due("11: try " + t + " what " + what, x.tryTold(t, what), want[t][what]);
             }
         }
-        int[][] wrong = {{-1, 0}, {3, 0}, {0, -1}, {0, 5}, {2, 5}, {MIN, 0}, {MAX, MAX}, {0, MAX}};
+        for (int i = 3; i < 60; i++) {
+            x.shown(1, 1, 719, 1);
+        }
+        due("11: the last, won", x.tryTold(59, 3), 1);
+        due("11: the last, set", x.tryTold(59, 4), 0);
+        due("11: none behind it", x.tryTold(60, 0), ThreeBalls.NONE);
+        int[][] wrong = {{-1, 0}, {60, 0}, {0, -1}, {0, 5}, {2, 5}, {MIN, 0}, {MAX, MAX}, {0, MAX}};
         for (int[] w : wrong) {
             due("11: wrong", x.tryTold(w[0], w[1]), ThreeBalls.NONE);
         }
