@@ -27,6 +27,7 @@ public final class FaceTest {
 
     public static void main(String[] args) throws Exception {
         face();
+        inside();
         words();
         CHECKS.end();
     }
@@ -71,6 +72,37 @@ public final class FaceTest {
                 && Modifier.isPrivate(inside.getModifiers()));
         }
         CHECKS.holds("some twelve classes", ThreeBalls.class.getDeclaredClasses().length <= 12);
+    }
+
+    /** Rules 5 and 11: what is static is constant; few parameters, fields and lines. */
+    private static void inside() throws Exception {
+        List<Class<?>> all = new ArrayList<>(Arrays.asList(ThreeBalls.class.getDeclaredClasses()));
+        all.add(ThreeBalls.class);
+        for (Class<?> c : all) {
+            int fields = 0;
+            for (Field f : c.getDeclaredFields()) {
+                boolean isStatic = Modifier.isStatic(f.getModifiers());
+                CHECKS.holds(f + " is final if it is static", !isStatic || Modifier.isFinal(f.getModifiers()));
+                fields += isStatic ? 0 : 1;
+            }
+            CHECKS.holds(c + " has some twenty fields: " + fields, fields <= 20);
+            for (Method m : c.getDeclaredMethods()) {
+                CHECKS.holds(m + " takes at most seven", m.getParameterCount() <= 7);
+            }
+        }
+        String unit = null;
+        int lines = 0;
+        for (String line : Files.readAllLines(Path.of("src/main/java/ThreeBalls.java"))) {
+            if (unit == null && line.endsWith(") {") && line.matches("( {4}| {8})[a-zA-Z].*") && !line.matches(" *(if|for|while|switch|else).*")) {
+                unit = line;
+                lines = 0;
+            }
+            lines++;
+            if (unit != null && line.equals(unit.substring(0, unit.length() - unit.trim().length()) + "}")) {
+                CHECKS.holds(unit.trim() + " is short: " + lines, lines <= 60);
+                unit = null;
+            }
+        }
     }
 
     private static void words() throws Exception {

@@ -21,15 +21,17 @@ public final class LimitsTest {
         }
         calls.sort(Comparator.comparing(Method::getName));
         for (int seed = 0; seed < 400; seed++) {
-            anyCalls(calls, new Random(seed));
+            anyCalls(new ThreeBalls(), calls, new Random(seed));
+            anyCalls(Greens.some(), calls, new Random(seed));
+            anyCalls(Greens.full(), calls, new Random(seed));
         }
+        farArguments(calls);
         dearestCalls();
         CHECKS.end();
     }
 
-    private static void anyCalls(List<Method> calls, Random random) throws Exception {
-        ThreeBalls x = new ThreeBalls();
-        for (int i = 0; i < 512; i++) {
+    private static void anyCalls(ThreeBalls x, List<Method> calls, Random random) throws Exception {
+        for (int i = 0; i < 300; i++) {
             Method m = calls.get(random.nextInt(calls.size()));
             Object[] given = new Object[m.getParameterCount()];
             for (int k = 0; k < given.length; k++) {
@@ -40,9 +42,35 @@ public final class LimitsTest {
                     given[k] = v;
                 }
             }
-            long answer = ((Number) m.invoke(x, given)).longValue();
-            boolean isInt = m.getReturnType() == int.class;
-            CHECKS.holds(m.getName() + " answers what it may: " + answer, isInt ? answer >= -260 : answer >= ThreeBalls.NO);
+            answers(m, x, given);
+        }
+    }
+
+    private static void answers(Method m, ThreeBalls x, Object[] given) throws Exception {
+        long answer = ((Number) m.invoke(x, given)).longValue();
+        boolean isInt = m.getReturnType() == int.class;
+        CHECKS.holds(m.getName() + " answers what it may: " + answer, isInt ? answer >= -260 : answer >= ThreeBalls.NO);
+    }
+
+    /** The farthest numbers in all places of each call, on greens in all states. */
+    private static void farArguments(List<Method> calls) throws Exception {
+        long[] far = {Long.MIN_VALUE, Long.MAX_VALUE, -1, 0, 1};
+        for (Method m : calls) {
+            int rows = 1;
+            for (int k = 0; k < m.getParameterCount(); k++) rows *= far.length;
+            for (int row = 0; row < rows; row++) {
+                Object[] given = new Object[m.getParameterCount()];
+                int left = row;
+                for (int k = 0; k < given.length; k++) {
+                    long v = far[left % far.length];
+                    left /= far.length;
+                    int asInt = v == Long.MIN_VALUE ? Integer.MIN_VALUE : v == Long.MAX_VALUE ? Integer.MAX_VALUE : (int) v;
+                    given[k] = m.getParameterTypes()[k] == long.class ? (Object) v : (Object) asInt;
+                }
+                answers(m, new ThreeBalls(), given);
+                answers(m, Greens.single(), given);
+                if (row % 7 == 0) answers(m, Greens.full(), given);
+            }
         }
     }
 
