@@ -15,6 +15,16 @@ final class Greens {
         return x;
     }
 
+    /** A stall that wins 9 of 25 at 10, 10, with a bear and what it seems; the first rule. */
+    static ThreeBalls priced() {
+        ThreeBalls x = new ThreeBalls();
+        x.stall(0, 1010, 1, 5);
+        x.hand(0, 0, 2);
+        x.set(0, 1, 30);
+        x.set(0, 2, 40);
+        return x;
+    }
+
     /** Some of each thing, an image, a tape begun, a sheet of each sort; the fourth is missing. */
     static ThreeBalls some() {
         ThreeBalls x = new ThreeBalls();

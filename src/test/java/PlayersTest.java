@@ -20,17 +20,8 @@ public final class PlayersTest {
         CHECKS.due(what, got, want);
     }
 
-    private static ThreeBalls green() {
-        ThreeBalls x = new ThreeBalls();
-        x.stall(0, 1010, 1, 5);
-        x.hand(0, 0, 2);
-        x.set(0, 1, 30);
-        x.set(0, 2, 40);
-        return x;
-    }
-
     private static void promise13() {
-        ThreeBalls x = green();
+        ThreeBalls x = Greens.priced();
         // 9 of 25 times 30 less 5 is 145 of 25.
         due("13: worth, top", x.worth(0, 0, 1010, 0, 0), 29);
         due("13: worth, bottom", x.worth(0, 0, 1010, 0, 1), 5);
@@ -81,7 +72,7 @@ public final class PlayersTest {
     }
 
     private static void promise15() {
-        ThreeBalls x = green();
+        ThreeBalls x = Greens.priced();
         due("15: n 0", x.feed(0, 1), ThreeBalls.BAD);
         due("15: n 9", x.feed(9, 1), ThreeBalls.BAD);
         due("15: n least", x.feed(MIN, 1), ThreeBalls.BAD);
@@ -213,14 +204,14 @@ public final class PlayersTest {
         String e = ("1" + sign).repeat(70) + "1";
         fault("play" + e + ";skill1;leave1 ", 160);
         fault("play" + e + ";skill1;leave1$", 159);
-        ThreeBalls x = green();
+        ThreeBalls x = Greens.priced();
         due("16: all of a full tape", Checks.read(x, "play" + e + ";skill1;leave1;"), 1);
         x.force(1);
         due("16: all of a full tape, by " + sign, x.says(0, 0, 0, 0, 0), comesTo);
     }
 
     private static void promise17() {
-        ThreeBalls x = green();
+        ThreeBalls x = Greens.priced();
         due("17: which was", x.force(0), 0);
         due("17: none such", x.force(1), ThreeBalls.BAD);
         Checks.read(x, "play 0;skill 7;leave 9;");
@@ -235,7 +226,7 @@ public final class PlayersTest {
     }
 
     private static long playOf(String e) {
-        ThreeBalls x = green();
+        ThreeBalls x = Greens.priced();
         due("18: " + e, Checks.read(x, "play " + e + ";skill " + e + ";leave 1;"), 1);
         x.force(1);
         return x.says(0, 0, 1010, 0, 309);
@@ -270,7 +261,7 @@ public final class PlayersTest {
         due("18: more than its part", playOf("99"), 99);
         due("18: wrapping", playOf("9999*9999*9999"), 9999 * 9999 * 9999);
         due("18: wrapping less", playOf("9999*9999*9999*9999<0"), 9999 * 9999 * 9999 * 9999 < 0 ? 1 : 0);
-        ThreeBalls x = green();
+        ThreeBalls x = Greens.priced();
         due("18: the first rule plays", x.says(0, 0, 1010, 0, 0), 1);
         due("18: the first rule calls it skill", x.says(0, 0, 1010, 1, 0), 1);
         due("18: no skill without odds", x.says(0, 0, 0, 1, 0), 0);
@@ -293,7 +284,7 @@ public final class PlayersTest {
     }
 
     private static void promise19() {
-        ThreeBalls x = green();
+        ThreeBalls x = Greens.priced();
         x.hand(0, 0, 0);
         // A hand that always wins.
         due("19: had by coin", x.player(1, 1010, 3, 23, 0), 4);
@@ -325,7 +316,7 @@ public final class PlayersTest {
     }
 
     private static void lotsOfAPlayer() {
-        ThreeBalls x = green();
+        ThreeBalls x = Greens.priced();
         long lot = 78;
         int won = 0;
         int wonIfLet = 0;
@@ -386,7 +377,7 @@ public final class PlayersTest {
     }
 
     private static void promise20() {
-        ThreeBalls x = green();
+        ThreeBalls x = Greens.priced();
         x.hand(0, 0, 0);
         // Goes on while more than half of the tries were won; the hand never wins.
         Checks.read(x, "play tries = 0 or tries < won * 2; skill 1; leave 1;");

@@ -188,7 +188,7 @@ public final class WordsTest {
             int place = Integer.parseInt(r[2]);
             due("16: then " + r[1], Checks.read(x, r[1]), place < 0 ? 1 : -100 - place);
         }
-        ThreeBalls x = green();
+        ThreeBalls x = Greens.priced();
         due("16: a long text", Checks.read(x, "play 1+2+3+4;skill 5*6*7;leave 8-9;"), 1);
         due("16: a short one", Checks.read(x, "play 2;skill 3;leave 4;"), 2);
         for (int t = 1; t <= 2; t++) {
@@ -317,17 +317,8 @@ public final class WordsTest {
         }
     }
 
-    private static ThreeBalls green() {
-        ThreeBalls x = new ThreeBalls();
-        x.stall(0, 1010, 1, 5);
-        x.hand(0, 0, 2);
-        x.set(0, 1, 30);
-        x.set(0, 2, 40);
-        return x;
-    }
-
     private static long playOf(String e) {
-        ThreeBalls x = green();
+        ThreeBalls x = Greens.priced();
         due("18: " + e, Checks.read(x, "play " + e + ";skill 1;leave 1;"), 1);
         x.force(1);
         return x.says(0, 0, 1010, 0, 309);
@@ -386,7 +377,7 @@ public final class WordsTest {
             {"3+odds", 3}, {"3+won", 3}, {"3+tries", 3}, {"price", 5}, {"bear", 30}, {"seems", 40}, {"1<2", 1}, {"not 0", 1}, {"not 1", 1},
         };
         for (Object[] r : rows) {
-            ThreeBalls x = green();
+            ThreeBalls x = Greens.priced();
             due("4: hours by " + r[0], Checks.read(x, "play 7;skill 8;leave " + r[0] + ";"), 1);
             x.shown(0, 0, 1010, 1);
             x.force(1);
@@ -420,7 +411,7 @@ public final class WordsTest {
             }
             due("18: no odds, " + names[n], x.says(0, 0, 0, 0, 0), n == 0 || n == 4 ? 0 : want[0][n]);
         }
-        ThreeBalls y = green();
+        ThreeBalls y = Greens.priced();
         Checks.read(y, "play 1000*won+tries;skill 1+won+tries;leave 1;");
         y.force(1);
         int[] had = {0, 1, 99, 100, 199, 309, 9900, 9999};
