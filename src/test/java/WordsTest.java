@@ -13,6 +13,7 @@ public final class WordsTest {
         everyByteBehindAValue();
         everyByteAheadOfAll();
         numbersOfDigits();
+        everyNumber();
         wordsAsLongAsCanBe();
         endsTooEarly();
         theFirstFault();
@@ -97,6 +98,19 @@ public final class WordsTest {
         fault("play 1;12345", 7);
         due("18: zeros ahead", playOf("0012"), 12);
         due("18: the greatest number", playOf("9999"), 9999);
+    }
+
+    private static void everyNumber() {
+        for (int n = 0; n <= 9999; n++) {
+            ThreeBalls x = Greens.priced();
+            due("16: number " + n, Checks.read(x, "play " + n + ";skill -" + n + ";leave 1;"), 1);
+            x.force(1);
+            due("18: number " + n, x.says(0, 0, 0, 0, 0), n);
+            due("18: number " + n + " below 0", x.says(0, 0, 0, 1, 0), -n);
+            fault(Greens.RIGHT + n, 23);
+            fault("play 1 " + n + REST, 7);
+            fault("play " + n, 5 + String.valueOf(n).length());
+        }
     }
 
     private static void wordsAsLongAsCanBe() {
